@@ -1,0 +1,101 @@
+import java.lang.reflect.Method;
+import java.lang.reflect.Modifier;
+import java.nio.file.Files;
+import java.nio.file.Path;
+import java.util.ArrayList;
+import java.util.List;
+import java.util.Set;
+import java.util.TreeSet;
+import java.util.regex.Matcher;
+import java.util.regex.Pattern;
+
+/** Looks for what ../shared/LANGUAGE.md rules out, as far as a reader of lines can see it. */
+public final class LanguageTest {
+  private static final List<String> found = new ArrayList<>();
+
+  public static void main(String[] args) throws Exception {
+    String source = Files.readString(Path.of("src/main/java/PivotStreet.java"));
+    String code = source.replaceAll("(?s)/\\*.*?\\*/", "").replaceAll("//[^\n]*", "").replaceAll("\"[^\"\n]*\"", "\"\"");
+    words(code);
+    imports(code);
+    names(code);
+    methods(code);
+    face();
+    for (int i = 0; i < source.length(); i++) {
+      if (source.charAt(i) > 126) found.add("a sign above 126 at " + i);
+    }
+    for (String line : found) System.out.println(line);
+    System.out.println(found.isEmpty() ? "the class keeps to its language" : found.size() + " breaches");
+    if (!found.isEmpty()) System.exit(1);
+  }
+
+  private static void words(String code) {
+    Matcher m = Pattern.compile("\\b(throw|throws|try|catch|finally|synchronized|assert|volatile|transient|native|hashCode|toString|protected|Object|\\w*Exact|Thread|Random|System\\.(?!arraycopy)\\w+)\\b|->|::|\\bstatic\\s*\\{").matcher(code);
+    while (m.find()) found.add("rule 2, 4, 5, 6 or 13: " + m.group());
+    m = Pattern.compile("\"\"\\s*\\+|\\+\\s*\"\"").matcher(code);
+    while (m.find()) found.add("rule 10: texts joined by +");
+    m = Pattern.compile("\\bstatic (?!final|class|boolean \\w+\\(|int \\w+\\(|long \\w+\\()").matcher(code);
+    while (m.find()) found.add("rule 5: static at " + m.start());
+  }
+
+  private static void imports(String code) {
+    Matcher m = Pattern.compile("import ([^;]+);").matcher(code);
+    while (m.find()) {
+      if (!m.group(1).equals("java.util.Arrays")) found.add("rule 4: " + m.group());
+    }
+    m = Pattern.compile("\\b(Math|Integer|Arrays|System)\\.(\\w+)").matcher(code);
+    Set<String> allowed = Set.of("abs", "min", "max", "floorMod", "compare", "bitCount", "fill", "arraycopy", "MAX_VALUE");
+    while (m.find()) {
+      if (!allowed.contains(m.group(2))) found.add("rule 4: " + m.group());
+    }
+    m = Pattern.compile("\\bnew (\\w+)").matcher(code);
+    while (m.find()) {
+      int line = code.lastIndexOf('\n', m.start());
+      String text = code.substring(line + 1, code.indexOf('\n', m.start()));
+      boolean inField = text.contains("private ") || text.contains("final ");
+      boolean inConstructor = text.contains("images[k]") || text.contains("slots[slot]");
+      if (!inField && !inConstructor) found.add("rule 12: made outside constructors: " + text.trim());
+    }
+  }
+
+  private static void names(String code) {
+    Set<String> face = new TreeSet<>();
+    Matcher m = Pattern.compile("(?m)^ {4}public (?:int|long) (\\w+)\\(").matcher(code);
+    while (m.find()) face.add(m.group(1));
+    if (face.size() != 80) found.add("rule 1: the face has " + face.size() + " names");
+    m = Pattern.compile("(?m)^\\s+(?:private )?(?:static )?(?:int|long|void|boolean) (\\w+)\\(").matcher(code);
+    while (m.find()) {
+      if (face.contains(m.group(1))) found.add("rule 1: a private method bears the name " + m.group(1));
+    }
+  }
+
+  private static void methods(String code) {
+    String[] lines = code.split("\n");
+    for (int i = 0; i < lines.length; i++) {
+      Matcher m = Pattern.compile("^( {4}| {8})(?:public |private )?(?:static )?[\\w\\[\\]]+ \\w+\\(([^)]*)\\) \\{$").matcher(lines[i]);
+      if (!m.find()) continue;
+      if (m.group(2).split(",").length > 7) found.add("rule 11: parameters of " + lines[i].trim());
+      int end = i;
+      while (end < lines.length && !lines[end].equals(m.group(1) + "}")) end++;
+      if (end - i > 60) found.add("rule 11: long method " + lines[i].trim());
+    }
+  }
+
+  private static void face() {
+    for (Method method : PivotStreet.class.getDeclaredMethods()) {
+      int mod = method.getModifiers();
+      if (!Modifier.isPublic(mod) && !Modifier.isPrivate(mod) && !method.isSynthetic()) found.add("rule 1: " + method);
+    }
+    for (java.lang.reflect.Field field : PivotStreet.class.getDeclaredFields()) {
+      boolean constant = field.getName().equals("NONE");
+      if (!constant && !Modifier.isPrivate(field.getModifiers())) found.add("rule 1: " + field);
+    }
+    if (!Modifier.isFinal(PivotStreet.class.getModifiers())) found.add("rule 1: not final");
+    if (PivotStreet.class.getDeclaredClasses().length > 12) found.add("rule 11: classes");
+    for (Class<?> inner : PivotStreet.class.getDeclaredClasses()) {
+      if (!Modifier.isStatic(inner.getModifiers())) found.add("rule 2: " + inner);
+      long fields = java.util.Arrays.stream(inner.getDeclaredFields()).filter(f -> !Modifier.isStatic(f.getModifiers())).count();
+      if (fields > 20) found.add("rule 11: fields of " + inner);
+    }
+  }
+}
