@@ -39,11 +39,9 @@ public final class PivotStreet {
 
     private final byte[] tape = new byte[MOST_BYTES];
     private int tapeLength = 0;
-    private final Reader reader = new Reader();
-    private int faultKind = 0;
-    private int faultPlace = NONE;
     private Town now = new Town();
     private Town draft = new Town();
+    private final Reader reader = new Reader(tape, draft);
     private final Town[] images = new Town[IMAGES];
     private final boolean[] imageKept = new boolean[IMAGES];
     private final Row[] slots = new Row[SLOTS];
@@ -97,12 +95,10 @@ public final class PivotStreet {
 
     public int town() {
         draft.clear();
-        reader.read(tape, tapeLength, draft);
-        faultKind = reader.fault;
-        faultPlace = reader.faultPlace;
+        reader.read(tapeLength, draft);
         // The tape is taken by a faulty reading, too: what stays is the town and what was done in it.
         tapeLength = 0;
-        if (faultKind != 0) {
+        if (reader.fault != 0) {
             return FAULTY;
         }
         Town before = now;
@@ -114,9 +110,9 @@ public final class PivotStreet {
 
     public int fault(int what) {
         if (what == 0) {
-            return faultKind;
+            return reader.fault;
         }
-        return what == 1 ? faultPlace : NONE;
+        return what == 1 ? reader.faultPlace : NONE;
     }
 
     // ---- what was told
@@ -1415,19 +1411,23 @@ public final class PivotStreet {
         private static final int NO_TOKEN = 4;
         private static final int TOO_LARGE = 1000000;
 
-        private byte[] bytes = new byte[0];
+        private final byte[] bytes;
         private int length;
-        private Town into = new Town();
+        private Town into;
         private int kind;
         private int start;
         private int stop;
         private int number;
-        int fault;
-        int faultPlace;
+        int fault = 0;
+        int faultPlace = NONE;
 
-        void read(byte[] tapeBytes, int tapeEnd, Town town) {
+        Reader(byte[] tapeBytes, Town town) {
             bytes = tapeBytes;
-            length = Math.min(tapeEnd, tapeBytes.length);
+            into = town;
+        }
+
+        void read(int tapeEnd, Town town) {
+            length = Math.min(tapeEnd, bytes.length);
             into = town;
             fault = 0;
             faultPlace = NONE;

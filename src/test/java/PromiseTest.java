@@ -66,6 +66,34 @@ public final class PromiseTest {
     due("1 anew", x.anew(), -2);
     due("1 drawn", x.drawn(0, 0), -2);
     due("1 NONE", PivotStreet.NONE, -1);
+    noTown(x);
+    noTown(Tape.street(""));
+  }
+
+  private static void noTown(PivotStreet x) {
+    int[] whole = {
+      x.snows(), x.jerk(), x.still(), x.brown(), x.pale(), x.span(), x.home(), x.backs(), x.gold(), x.rights(), x.fair(),
+      x.post(), x.law(), x.trade(), x.trades(), x.undo(), x.anew()
+    };
+    for (int i = 0; i < whole.length; i++) due("1 no town, call " + i, whole[i], -2);
+    int[] of0 = {
+      x.stands(0), x.strongest(0), x.toil(0), x.sees(0), x.nose(0), x.idle(0), x.all(0), x.noon(0), x.best(0), x.sweet(0),
+      x.last(0), x.same(0), x.loose(0), x.late(0), x.right(0), x.wrong(0), x.moves(0), x.by(0), x.leans(0), x.surely(0),
+      x.never(0), x.ask(0), x.leaves(0), x.gate(0), x.laws(0), x.worth(0)
+    };
+    for (int i = 0; i < of0.length; i++) due("1 no town, call of 0 " + i, of0[i], -2);
+    int[] of00 = {
+      x.house(0, 0), x.place(0, 0), x.letter(0, 0), x.at(0, 0), x.who(0, 0), x.pushes(0, 0), x.sun(0, 0), x.when(0, 0),
+      x.apart(0, 0, 0), x.often(0, 0), x.beside(0, 1), x.mates(0, 0), x.view(0, 0), x.stay(0, 0), x.stays(0, 0),
+      x.share(0, 0), x.rests(0, 1), x.rest(0, 0), x.swap(0, 1, 0), x.drawn(0, 0), x.luck(0, 1, 0), x.rate(0, 0)
+    };
+    for (int i = 0; i < of00.length; i++) due("1 no town, call of two " + i, of00[i], -2);
+    due("66 no town", x.gets(0, 1, 0, 0), -1000);
+    due("67 no town", x.chance(0, 0, 0, 0), -2);
+    due("68 no town", x.mean(0, 0, 0), -2);
+    due("13 no town", x.force(0), -10000);
+    due("14 no town", x.turn(0), -10000);
+    for (int what = 0; what < 12; what++) due("76 no town " + what, x.count(what), 0);
   }
 
   private static void tape() {
