@@ -163,6 +163,8 @@ public final class PromiseTest {
     fault(FIRST + "\t", 1, 35);
     fault(FIRST + "\u00e9", 1, 35);
     fault(FIRST + "house push 5 leans leans;", 1, 54);
+    fault(FIRST + "house push 5 leansz;", 1, 48);
+    fault(FIRST + "xouse push 5;", 1, 35);
     fault(FIRST + "house push leans;", 1, 46);
     fault(FIRST + "house push 5 5;", 1, 48);
     fault(FIRST + "house push -5;", 1, 46);
@@ -406,6 +408,12 @@ public final class PromiseTest {
     due("51 post", x.post(), 2);
     due("51 post, the least", Tape.street(two + "letter 0 to 0 at 1;").post(), 1);
     due("50 heavy stays", x.count(2), 9);
+    // Only as heavy as 30 it stands still till the exchange: 10 + 10 for each.
+    PivotStreet heaviest = Tape.street("town weeks 3 law 1 heavy 1 odds 0;house push 29;house push 0;place 0 sun 10 smell 0;letter 0 to 0 at 1;");
+    heaviest.swap(0, 1, 2);
+    heaviest.rest(0, 2);
+    due("50 fair, acts hold", heaviest.fair(), 30);
+    due("51 post, the heaviest", heaviest.post(), 30);
     PivotStreet four = Tape.street(FOUR);
     int[] spans = {9, 9, 20, 34};
     for (int law = 0; law < 4; law++) due("52 by " + law, four.by(law), spans[law]);
