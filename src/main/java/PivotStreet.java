@@ -1592,40 +1592,28 @@ public final class PivotStreet {
                 start++;
             }
             stop = start;
-            if (start >= length) {
-                kind = AT_END;
-            } else if (isLowerCase(bytes[start])) {
-                readWord();
-            } else if (isDigit(bytes[start])) {
-                readNumber();
-            } else {
-                kind = bytes[start] == ';' ? SEMICOLON : NO_TOKEN;
-                stop++;
-            }
-        }
-
-        private void readWord() {
-            kind = WORD;
-            while (stop < length && isLowerCase(bytes[stop])) {
-                stop++;
-            }
-        }
-
-        private void readNumber() {
-            kind = NUMBER;
             number = 0;
-            while (stop < length && isDigit(bytes[stop])) {
-                number = Math.min(TOO_LARGE, number * 10 + bytes[stop] - '0');
+            kind = start < length ? kindOf(bytes[start]) : AT_END;
+            if (kind == SEMICOLON || kind == NO_TOKEN) {
+                stop++;
+                return;
+            }
+            while (stop < length && kindOf(bytes[stop]) == kind) {
+                if (kind == NUMBER) {
+                    number = Math.min(TOO_LARGE, number * 10 + bytes[stop] - '0');
+                }
                 stop++;
             }
         }
 
-        private static boolean isLowerCase(int sign) {
-            return sign >= 'a' && sign <= 'z';
-        }
-
-        private static boolean isDigit(int sign) {
-            return sign >= '0' && sign <= '9';
+        private static int kindOf(int sign) {
+            if (sign >= 'a' && sign <= 'z') {
+                return WORD;
+            }
+            if (sign >= '0' && sign <= '9') {
+                return NUMBER;
+            }
+            return sign == ';' ? SEMICOLON : NO_TOKEN;
         }
     }
 
