@@ -1348,7 +1348,7 @@ public final class PivotStreet {
             System.arraycopy(from.letterHouse, 0, letterHouse, 0, MOST_LETTERS);
             System.arraycopy(from.letterPlace, 0, letterPlace, 0, MOST_LETTERS);
             System.arraycopy(from.letterWeek, 0, letterWeek, 0, MOST_LETTERS);
-            acts.copyFrom(from.acts);
+            acts.repeat(from.acts);
         }
     }
 
@@ -1377,7 +1377,7 @@ public final class PivotStreet {
             noteAll();
         }
 
-        void copyFrom(Acts from) {
+        void repeat(Acts from) {
             size = from.size;
             System.arraycopy(from.house, 0, house, 0, MOST_ACTS);
             System.arraycopy(from.partner, 0, partner, 0, MOST_ACTS);

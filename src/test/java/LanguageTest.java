@@ -4,7 +4,9 @@ import java.nio.file.Files;
 import java.nio.file.Path;
 import java.util.ArrayList;
 import java.util.List;
+import java.util.Map;
 import java.util.Set;
+import java.util.TreeMap;
 import java.util.TreeSet;
 import java.util.regex.Matcher;
 import java.util.regex.Pattern;
@@ -20,6 +22,7 @@ public final class LanguageTest {
     imports(code);
     names(code);
     methods(code);
+    depths(code);
     face();
     for (int i = 0; i < source.length(); i++) {
       if (source.charAt(i) > 126) found.add("a sign above 126 at " + i);
@@ -79,6 +82,38 @@ public final class LanguageTest {
       while (end < lines.length && !lines[end].equals(m.group(1) + "}")) end++;
       if (end - i > 60) found.add("rule 11: long method " + lines[i].trim());
     }
+  }
+
+  /** How deep calls go, by names alone: a name that several classes use counts as all of them. */
+  private static void depths(String code) {
+    Map<String, Set<String>> calls = new TreeMap<>();
+    String[] lines = code.split("\n");
+    String method = "";
+    Pattern head = Pattern.compile("^(?: {4}| {8})(?:public |private )?(?:static )?[\\w\\[\\]]+ (\\w+)\\([^)]*\\) \\{$");
+    for (String line : lines) {
+      Matcher m = head.matcher(line);
+      if (m.find()) {
+        method = m.group(1);
+        calls.putIfAbsent(method, new TreeSet<>());
+        continue;
+      }
+      Matcher call = Pattern.compile("(?<!Arrays\\.)(?<!Math\\.)(?<!Integer\\.)\\b(\\w+)\\(").matcher(line);
+      while (call.find() && !method.isEmpty()) calls.get(method).add(call.group(1));
+    }
+    if (calls.size() < 150) found.add("rule 11: only " + calls.size() + " methods were found");
+    for (String name : calls.keySet()) {
+      int depth = depth(name, calls, 0);
+      if (depth > 8) found.add("rule 11: " + name + " goes " + depth + " deep");
+    }
+  }
+
+  private static int depth(String name, Map<String, Set<String>> calls, int open) {
+    if (open > 20) return 20;
+    int deepest = 0;
+    for (String called : calls.get(name)) {
+      if (calls.containsKey(called)) deepest = Math.max(deepest, depth(called, calls, open + 1));
+    }
+    return deepest + 1;
   }
 
   private static void face() {
