@@ -17,6 +17,7 @@ public final class ChangeEdgeTest {
     count();
     imageOutside();
     imageKeeps();
+    imageOfFullTown();
     imageOfNoTown();
     rowEdges();
     rowStays();
@@ -196,6 +197,10 @@ public final class ChangeEdgeTest {
       Due.is("73 no town", NO_TOWN.drawn(0, what), -2);
     }
     Due.outside("73 no such what", 0, 2, what -> x.drawn(0, what), -2);
+    PivotStreet longest = Tape.street(Texts.ring(2, 20).replace("odds 5", "odds 10") + Texts.place(0, 1, 0) + Texts.letter(1, 0, 19));
+    Due.is("73 twenty weeks, span: 11 and 10", longest.drawn(0, 1), 1);
+    Due.is("73 twenty weeks, letters", longest.drawn(0, 2), 1);
+    Due.is("74 twenty weeks", longest.luck(0, 20, 0), 20);
     PivotStreet none = bare();
     Due.is("73 without houses, snows", none.drawn(0, 0), 1);
     Due.is("73 without houses, span", none.drawn(0, 1), 0);
@@ -316,6 +321,33 @@ public final class ChangeEdgeTest {
     x.back(2);
     Due.is("77 the tape is not kept", x.count(10), 4);
     Due.is("77 slots are not kept", x.count(11), 1);
+  }
+
+  private static void imageOfFullTown() {
+    StringBuilder text = new StringBuilder(Texts.town(20, 3, 9, 7));
+    for (int h = 0; h < 8; h++) text.append(h % 3 == 0 ? Texts.lean(40 - h) : Texts.house(30 + h));
+    for (int p = 0; p < 8; p++) text.append(Texts.place(p, 20 - p, p + 1));
+    text.append(Texts.snow(19, 3, 11, 0));
+    for (int l = 0; l < 8; l++) text.append(Texts.letter(7 - l, l, 19 - l));
+    PivotStreet x = Tape.street(text.toString());
+    for (int i = 0; i < 30; i++) {
+      if (i % 2 == 0) x.swap(i % 8, (i + 3) % 8, i % 20);
+      else x.rest(i % 8, 19 - i % 20);
+    }
+    String full = State.of(x);
+    x.image(0);
+    Tape.town(x, Texts.standing(3, 5));
+    String small = State.of(x);
+    x.image(1);
+    Due.is("78 back to the full one", x.back(0), 0);
+    Due.is("78 it is as it was", State.of(x), full);
+    Due.is("78 back to the small one", x.back(1), 0);
+    Due.is("78 it is as it was", State.of(x), small);
+    x.back(0);
+    Due.is("69 it is full of acts", x.rest(0, 0), -5);
+    Due.is("71 the latest act", x.undo(), 29);
+    Due.is("69 the latest act again", x.rest(5, 10) >= 0 ? 1 : 0, 1);
+    Due.is("78 it is as it was with 30", State.of(x), full);
   }
 
   private static void imageOfNoTown() {

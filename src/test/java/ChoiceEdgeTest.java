@@ -35,6 +35,7 @@ public final class ChoiceEdgeTest {
     chanceOutside();
     mean();
     meanOutside();
+    nothingLeftBehind();
     Due.finish();
   }
 
@@ -235,11 +236,18 @@ public final class ChoiceEdgeTest {
   }
 
   private static void seen(String what, PivotStreet x, long leans, long surely, long never, long ask, long leaves) {
+    // Another row is asked about between, one that nothing fits.
+    write(x, 1, 1, 0, 400);
     Due.is("56 " + what, x.leans(0), leans);
+    Due.is("56 another row", x.leans(1), 0);
     Due.is("57 " + what, x.surely(0), surely);
+    Due.is("57 another row", x.surely(1), NONE);
     Due.is("58 " + what, x.never(0), never);
+    Due.is("58 another row", x.never(1), NONE);
     Due.is("59 " + what, x.ask(0), ask);
+    Due.is("59 another row", x.ask(1), NONE);
     Due.is("60 " + what, x.leaves(0), leaves);
+    Due.is("60 another row", x.leaves(1), 0);
   }
 
   // Promises 56 to 60: "NONE: there are none"; "(as now without)".
@@ -422,6 +430,10 @@ public final class ChoiceEdgeTest {
     Due.is("62 by the last alone", x.laws(0), 8);
     write(x, 0, 0, 0, 0, 1, 0);
     Due.is("62 by none", x.laws(0), 0);
+    write(x, 0, 0, 4, 1, 0, 0);
+    Due.is("62 the last week", x.laws(0), 7);
+    write(x, 0, 0, 4, 2, 0, 0);
+    Due.is("62 the last week by the last law", x.laws(0), 8);
     Due.is("62 the year stays as told", x.at(0, 2), 2);
   }
 
@@ -463,6 +475,10 @@ public final class ChoiceEdgeTest {
     share("below 0", below, 1, -1, 2);
     share("with it", below, 0, 3, 2);
     share("one house", ring(1, 20), 0, 20, 1);
+    share("all of eight houses", ring(8, 20), 0, 20, 1);
+    share("nothing of eight houses", ring(8, 20), 7, 0, 1);
+    PivotStreet half = Tape.street(Texts.town(1, 1, 10, 0) + Texts.house(10, 10, 0, 0, 0, 0, 0, 0));
+    share("half of eight houses", half, 1, 1, 2);
     Due.is("64 without houses", BARE.share(0, 0), -2);
     Due.is("64 no town", NO_TOWN.share(0, 1), -2);
     x.rest(0, 0);
@@ -509,6 +525,7 @@ public final class ChoiceEdgeTest {
     Due.is("65 more by going out, the other one", lure(3).rests(1, 0), 3);
     Due.is("65 as much is not more", lure(2).rests(0, 1), 15);
     Due.is("65 less by going out", lure(1).rests(0, 1), 10);
+    games();
     PivotStreet x = ring(3, 4);
     Due.outside("65 no such house", 0, 2, h -> x.rests(h, 1), -2);
     Due.outside("65 no such other one", 0, 2, h -> x.rests(1, h), -2);
@@ -517,6 +534,27 @@ public final class ChoiceEdgeTest {
     Due.is("65 one house", ring(1, 4).rests(0, 0), -2);
     Due.is("65 without houses", BARE.rests(0, 1), -2);
     Due.is("65 no town", NO_TOWN.rests(0, 1), -2);
+  }
+
+  private static void game(String what, PivotStreet x, int[][] first, int[][] second, int rests) {
+    for (int a = 0; a < 2; a++) {
+      for (int b = 0; b < 2; b++) {
+        Due.is("66 " + what + ", the first one " + a + " " + b, x.gets(0, 1, a, b), first[a][b]);
+        Due.is("66 " + what + ", the other one " + b + " " + a, x.gets(1, 0, b, a), second[a][b]);
+      }
+    }
+    Due.is("65 " + what, x.rests(0, 1), rests);
+    Due.is("65 " + what + ", the other one first", x.rests(1, 0), rests & 9 | (rests & 2) << 1 | (rests & 4) >> 1);
+  }
+
+  // Each row by what the first one does, 0 out, 1 in; in it by what the other one does.
+  private static void games() {
+    String two = Texts.house(10, 10) + Texts.place(0, 5, 0);
+    game("none is at rest", Tape.street(Texts.town(1, 0, 10, 0) + two), new int[][] {{8, 3}, {5, 10}}, new int[][] {{-2, 5}, {3, 0}}, 0);
+    game("as much is not more", Tape.street(Texts.town(1, 0, 10, 0) + two + Texts.place(1, 3, 0)), new int[][] {{8, 6}, {8, 10}}, new int[][] {{4, 8}, {6, 6}}, 10);
+    game("both stay in", Tape.street(Texts.town(1, 0, 20, 0) + two + Texts.place(1, 9, 0)), new int[][] {{12, 8}, {10, 10}}, new int[][] {{12, 18}, {16, 18}}, 8);
+    String three = Texts.house(10, 10, 0) + Texts.place(1, 5, 0) + Texts.place(2, 20, 0);
+    game("both or neither", Tape.street(Texts.town(1, 0, 20, 0) + three), new int[][] {{3, -2}, {0, 0}}, new int[][] {{23, 10}, {8, 10}}, 9);
   }
 
   /** House 1 alone pushes; at the places between the first and the last it does not in snow. */
@@ -582,6 +620,10 @@ public final class ChoiceEdgeTest {
     mean("two weeks", walker(8, 20, 3, sun), 1, 139, 100);
     mean("odds 0", walker(8, 20, 0, sun + Texts.snow(0)), 1, 1, 1);
     mean("odds 10", walker(8, 20, 10, sun), 7, 9, 1);
+    String everywhere = Texts.place(0, 3, 0) + Texts.place(1, 5, 0) + Texts.place(2, 6, 0);
+    mean("sun everywhere, one week", walker(3, 4, 0, everywhere), 0, 11, 1);
+    mean("sun everywhere, all weeks", walker(3, 4, 0, everywhere), 3, 25, 1);
+    mean("sun everywhere, in snow", walker(3, 4, 10, everywhere), 3, 25, 1);
     mean("no sun", walker(8, 20, 3, ""), 7, 0, 1);
     // 1 + 1/10 + .. + 1/10 ^ 8, and 9 ^ 6 / 10 ^ 6 for quite round.
     mean("eight weeks", walker(8, 20, 1, sun), 7, 164255211, 100000000);
@@ -601,5 +643,54 @@ public final class ChoiceEdgeTest {
     Due.outside("68 no such what", 0, 1, what -> x.mean(0, 0, what), -2);
     Due.is("68 without houses", BARE.mean(0, 0, 0), -2);
     Due.is("68 no town", NO_TOWN.mean(0, 0, 0), -2);
+  }
+
+  // What could be changes nothing, and no question's answer stands in the way of another's.
+  private static void nothingLeftBehind() {
+    String text = Texts.town(3, 0, 7, 4) + Texts.house(11, 6) + Texts.lean(9) + Texts.place(0, 3, 2) + Texts.place(1, 8, 0) + Texts.place(2, 1, 4) + Texts.snow(1) + Texts.letter(0, 2, 1) + Texts.letter(2, 0, 3);
+    PivotStreet fresh = Tape.street(text);
+    fresh.row(0, 0, 0);
+    String told = State.of(fresh);
+    String due = State.wide(fresh);
+    String[] questions = {"fair", "post", "by", "trade", "leans", "laws", "worth", "share", "rests", "gets", "chance", "mean", "drawn", "luck", "stays", "moves"};
+    for (String question : questions) {
+      PivotStreet x = Tape.street(text);
+      x.row(0, 0, 0);
+      ask(x, question);
+      Due.is("behind " + question + " all is as told", State.of(x), told);
+      ask(x, question);
+      Due.is("behind " + question + " all else is answered as ever", State.wide(x), due);
+    }
+    for (String question : questions) {
+      for (String other : questions) {
+        PivotStreet x = Tape.street(text);
+        x.row(0, 0, 0);
+        PivotStreet y = Tape.street(text);
+        y.row(0, 0, 0);
+        ask(x, other);
+        Due.is(question + " behind " + other, ask(x, question), ask(y, question));
+      }
+    }
+  }
+
+  private static long ask(PivotStreet x, String question) {
+    switch (question) {
+      case "fair": return x.fair();
+      case "post": return x.post();
+      case "by": return x.by(3);
+      case "trade": return x.trade();
+      case "leans": return x.leans(0);
+      case "laws": return x.laws(0);
+      case "worth": return x.worth(5);
+      case "share": return x.share(2, 0);
+      case "rests": return x.rests(0, 2);
+      case "gets": return x.gets(0, 2, 1, 0);
+      case "chance": return x.chance(0, 1, 2, 0);
+      case "mean": return x.mean(0, 2, 0);
+      case "drawn": return x.drawn(8, 1);
+      case "luck": return x.luck(8, 20, 0);
+      case "stays": return x.stays(0, 0);
+      default: return x.moves(0);
+    }
   }
 }

@@ -12,6 +12,7 @@ public final class TextEdgeTest {
     townOfNothing();
     townFaultStays();
     townTakesAll();
+    townBehindOthers();
     faultAnswers();
     faultPlaces();
     faultEnd();
@@ -135,6 +136,29 @@ public final class TextEdgeTest {
     Tape.town(leaning, FIRST + Texts.house(5));
     Due.is("4 who leant before does not", leaning.house(0, 1), 0);
     Due.is("4 no letter is left", leaning.letter(0, 0), -2);
+  }
+
+  // Promise 4: "in place of another", however full that one was, and however far a faulty text came.
+  private static void townBehindOthers() {
+    String full = Texts.town(20, 3, 30, 10) + "house push 40 leans;".repeat(8) + "place 0 sun 20 smell 20;".repeat(10) + Texts.snow(0, 1, 2, 3) + "letter 7 to 7 at 19;".repeat(8);
+    String[] ahead = {full, full + "house push 1;", full + "?", full};
+    String[] few = {"", Texts.town(1, 0, 1, 0), Texts.town(2, 0, 10, 3) + Texts.house(10, 0), Texts.town(3, 2, 7, 5) + Texts.house(4, 5) + Texts.lean(6) + Texts.place(1, 2, 3) + Texts.snow(1) + Texts.letter(2, 1, 1)};
+    for (String text : few) {
+      PivotStreet used = new PivotStreet();
+      for (String other : ahead) {
+        if (Tape.town(used, other) > 0) {
+          used.rest(0, 1);
+          used.swap(0, 7, 0);
+          used.swap(1, 6, 2);
+        }
+      }
+      Tape.town(used, text);
+      PivotStreet fresh = Tape.street(text);
+      used.row(0, 0, 0);
+      fresh.row(0, 0, 0);
+      Due.is("4 nothing is left of others", State.of(used), State.of(fresh));
+      Due.is("4 nothing is left of others in all that is asked", State.wide(used), State.wide(fresh));
+    }
   }
 
   // Promise 5: "NONE for another what, and ahead of any (what 1)." "0 without"
@@ -289,6 +313,10 @@ public final class TextEdgeTest {
     }
     fault("the longest word", "townweeks 4 law 0 heavy 10 odds 0;", 1, 0);
     fault("a word that is cut", "tow weeks 4 law 0 heavy 10 odds 0;", 1, 0);
+    for (String word : new String[] {"a", "z", "az", "za"}) {
+      fault("a letter more", "town" + word + " weeks 4 law 0 heavy 10 odds 0;", 1, 0);
+      fault("a letter ahead", word + "town weeks 4 law 0 heavy 10 odds 0;", 1, 0);
+    }
     fault("the longest number", FIRST + "house push 4 0 0;", 1, 48);
     fault("the longest number", FIRST + "house push 400;", 2, 46);
     good("no blanks between words and numbers", "town weeks4law0heavy10odds0;house push0leans;letter0to0at0;", 3);
@@ -322,6 +350,12 @@ public final class TextEdgeTest {
       fault("a word in place of " + words[i], text.toString(), 1, place);
       String swapped = text.toString().replace("quiet", Character.isLetter(words[i].charAt(0)) ? "5" : "? ");
       fault("another token in place of " + words[i], swapped, 1, place);
+      if (Character.isLetter(words[i].charAt(0))) {
+        fault("another first letter of " + words[i], text.toString().replace("quiet", "x" + words[i].substring(1)), 1, place);
+        fault("another last letter of " + words[i], text.toString().replace("quiet", words[i].substring(0, words[i].length() - 1) + "x"), 1, place);
+        fault("a letter less of " + words[i], text.toString().replace("quiet", words[i].substring(0, words[i].length() - 1)), 1, place);
+        fault("a large letter in " + words[i], text.toString().replace("quiet", words[i].substring(0, 1).toUpperCase() + words[i].substring(1)), 1, place);
+      }
     }
   }
 

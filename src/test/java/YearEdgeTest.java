@@ -284,6 +284,7 @@ public final class YearEdgeTest {
     Due.each("18 the first of several", x::strongest, -1, -2, 1, 1, -2);
     x.rest(1, 1);
     Due.each("18 the other one", x::strongest, 0, 1, 2);
+    Due.each("18 the first house alone", ring(3, 2)::strongest, -1, -2, 0, 0, -2);
     Due.each("18 none pushes", standing(3, 2)::strongest, -1, -2, NONE, NONE, -2);
     PivotStreet smelly = Tape.street(Texts.town(2, 0, 30, 0) + Texts.house(5) + Texts.place(0, 0, 5));
     Due.each("18 none pushes for the smell", smelly::strongest, -1, -2, NONE, NONE, -2);
@@ -583,6 +584,7 @@ public final class YearEdgeTest {
     Due.each("39 the last week", ring(3, 3)::last, -1, -2, 3, 3, 3, -2);
     Due.each("39 week 0 alone", ring(3, 2)::last, -1, -2, 0, 0, 0, -2);
     Due.each("39 the one ahead of the last", ring(3, 4)::last, -1, -2, 3, 3, 3, -2);
+    Due.each("39 week 1", standing(2, 1)::last, -1, -2, 1, 1, -2);
     Due.each("39 always", standing(2, 20)::last, -1, -2, 20, 20, -2);
     Due.outside("39 no such house", 0, 2, ring(3, 4)::last, -2);
     Due.is("39 without houses", BARE.last(0), -2);
@@ -636,6 +638,8 @@ public final class YearEdgeTest {
     Due.is("45 all of eight", Tape.street(Texts.standing(1, 1) + "letter 0 to 0 at 1;".repeat(8)).rights(), 255);
     Due.is("45 in the last week, not behind it", Tape.street(Texts.standing(1, 1) + Texts.letter(0, 0, 2) + Texts.letter(0, 0, 1)).rights(), 2);
     Due.is("45 week 19 of twenty", Tape.street(Texts.ring(8, 20) + Texts.letter(5, 0, 19) + Texts.letter(5, 1, 19)).rights(), 1);
+    PivotStreet behind = Tape.street(Texts.standing(2, 1) + Texts.letter(1, 0, 2) + Texts.letter(0, 1, 2));
+    Due.each("46 no such week", behind::wrong, 0, NONE, NONE, -2);
     PivotStreet none = standing(2, 2);
     Due.is("45 no letters", none.rights(), 0);
     Due.each("43 no letters", none::late, -1, -2, -2);
