@@ -298,7 +298,7 @@ public final class ChangeEdgeTest {
     x.rate(2, 9);
     String second = State.of(x);
     x.image(2);
-    Tape.town(x, Texts.standing(8, 20) + Texts.letter(7, 7, 7));
+    Tape.town(x, Texts.standing(2, 5) + Texts.letter(1, 7, 7));
     String third = State.of(x);
     x.image(1);
     for (int round = 0; round < 2; round++) {
@@ -307,11 +307,11 @@ public final class ChangeEdgeTest {
       Due.is("71 its acts can be taken back", x.undo(), 1);
       Due.is("72 all of them", x.anew(), 1);
       Due.is("75 push as it was then", x.rate(2, 1), 7);
-      Due.is("78 back to the one with no acts", x.back(2), 0);
-      Due.is("78 it is as it was", State.of(x), second);
-      Due.is("78 back to the one in place of another", x.back(1), 0);
-      Due.is("78 it is as it was", State.of(x), third);
     }
+    Due.is("78 back to the one with no acts", x.back(2), 0);
+    Due.is("78 it is as it was", State.of(x), second);
+    Due.is("78 back to the one in place of another", x.back(1), 0);
+    Due.is("78 it is as it was", State.of(x), third);
     Due.is("5 fault() is of the latest town()", x.fault(0), 0);
     Tape.town(x, "x");
     x.back(0);
@@ -323,18 +323,23 @@ public final class ChangeEdgeTest {
     Due.is("77 slots are not kept", x.count(11), 1);
   }
 
-  private static void imageOfFullTown() {
+  private static PivotStreet fullTown() {
     StringBuilder text = new StringBuilder(Texts.town(20, 3, 9, 7));
     for (int h = 0; h < 8; h++) text.append(h % 3 == 0 ? Texts.lean(40 - h) : Texts.house(30 + h));
     for (int p = 0; p < 8; p++) text.append(Texts.place(p, 20 - p, p + 1));
     text.append(Texts.snow(19, 3, 11, 0));
-    for (int l = 0; l < 8; l++) text.append(Texts.letter(7 - l, l, 19 - l));
+    for (int l = 0; l < 8; l++) text.append(Texts.letter((l + 3) % 8, l, 19 - l));
     PivotStreet x = Tape.street(text.toString());
     for (int i = 0; i < 30; i++) {
       if (i % 2 == 0) x.swap(i % 8, (i + 3) % 8, i % 20);
       else x.rest(i % 8, 19 - i % 20);
     }
-    String full = State.of(x);
+    return x;
+  }
+
+  private static void imageOfFullTown() {
+    String full = State.of(fullTown());
+    PivotStreet x = fullTown();
     x.image(0);
     Tape.town(x, Texts.standing(3, 5));
     String small = State.of(x);
@@ -343,11 +348,14 @@ public final class ChangeEdgeTest {
     Due.is("78 it is as it was", State.of(x), full);
     Due.is("78 back to the small one", x.back(1), 0);
     Due.is("78 it is as it was", State.of(x), small);
-    x.back(0);
-    Due.is("69 it is full of acts", x.rest(0, 0), -5);
-    Due.is("71 the latest act", x.undo(), 29);
-    Due.is("69 the latest act again", x.rest(5, 10) >= 0 ? 1 : 0, 1);
-    Due.is("78 it is as it was with 30", State.of(x), full);
+    PivotStreet y = fullTown();
+    y.image(2);
+    Tape.town(y, Texts.standing(3, 5));
+    y.back(2);
+    Due.is("69 it is full of acts", y.rest(0, 0), -5);
+    Due.is("71 the latest act", y.undo(), 29);
+    Due.is("69 the latest act again", y.rest(5, 10) >= 0 ? 1 : 0, 1);
+    Due.is("78 it is as it was with 30", State.of(y), full);
   }
 
   private static void imageOfNoTown() {

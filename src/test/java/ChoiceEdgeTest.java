@@ -648,14 +648,12 @@ public final class ChoiceEdgeTest {
   // What could be changes nothing, and no question's answer stands in the way of another's.
   private static void nothingLeftBehind() {
     String text = Texts.town(3, 0, 7, 4) + Texts.house(11, 6) + Texts.lean(9) + Texts.place(0, 3, 2) + Texts.place(1, 8, 0) + Texts.place(2, 1, 4) + Texts.snow(1) + Texts.letter(0, 2, 1) + Texts.letter(2, 0, 3);
-    PivotStreet fresh = Tape.street(text);
-    fresh.row(0, 0, 0);
+    PivotStreet fresh = seeing(text);
     String told = State.of(fresh);
     String due = State.wide(fresh);
     String[] questions = {"fair", "post", "by", "trade", "leans", "laws", "worth", "share", "rests", "gets", "chance", "mean", "drawn", "luck", "stays", "moves"};
     for (String question : questions) {
-      PivotStreet x = Tape.street(text);
-      x.row(0, 0, 0);
+      PivotStreet x = seeing(text);
       ask(x, question);
       Due.is("behind " + question + " all is as told", State.of(x), told);
       ask(x, question);
@@ -663,14 +661,19 @@ public final class ChoiceEdgeTest {
     }
     for (String question : questions) {
       for (String other : questions) {
-        PivotStreet x = Tape.street(text);
-        x.row(0, 0, 0);
-        PivotStreet y = Tape.street(text);
-        y.row(0, 0, 0);
+        PivotStreet x = seeing(text);
         ask(x, other);
-        Due.is(question + " behind " + other, ask(x, question), ask(y, question));
+        Due.is(question + " behind " + other, ask(x, question), ask(seeing(text), question));
       }
     }
+  }
+
+  /** Slot 0 has the turns of weeks 1 and 2 as told; the town is read again, as if nothing had been asked. */
+  private static PivotStreet seeing(String text) {
+    PivotStreet x = Tape.street(text);
+    write(x, 0, 1, 1, x.turn(1), 2, x.turn(2));
+    Due.is("56 some can lean, some can't", x.leans(0) > 0 && x.leans(0) < 8 ? 1 : 0, 1);
+    return Tape.town(x, text) > 0 ? x : null;
   }
 
   private static long ask(PivotStreet x, String question) {

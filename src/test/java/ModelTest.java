@@ -9,6 +9,7 @@ import java.util.Random;
 public final class ModelTest {
   private static final int RUNS = 400;
   private static final int CALLS = 480;
+  private static final int LAST_CALL = 512;
   private final Random random;
   private final PivotStreet street = new PivotStreet();
   private final StreetModel model = new StreetModel();
@@ -60,13 +61,15 @@ public final class ModelTest {
     Class<?>[] types = m.getParameterTypes();
     Object[] args = new Object[types.length];
     for (int i = 0; i < args.length; i++) {
-      if (types[i] == long.class) args[i] = (long) argument(m.getName(), i);
+      if (types[i] == long.class) args[i] = random.nextInt(6) == 0 ? random.nextLong() >> random.nextInt(60) : (long) argument(m.getName(), i);
       else args[i] = argument(m.getName(), i);
     }
     check(m, args);
   }
 
   private void check(Method m, Object... args) throws Exception {
+    // What an object answers behind its 512th call is free.
+    if (log.size() >= LAST_CALL) return;
     int k = Arrays.asList(methods).indexOf(m);
     log.add(m.getName() + Arrays.toString(args));
     Object got = m.invoke(street, args);

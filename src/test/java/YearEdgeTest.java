@@ -41,6 +41,7 @@ public final class YearEdgeTest {
     loose();
     gold();
     letters();
+    behindTheLastWeek();
     Due.finish();
   }
 
@@ -348,6 +349,8 @@ public final class YearEdgeTest {
     PivotStreet inLast = Tape.street(Texts.ring(3, 1) + Texts.place(2, 1, 0) + Texts.place(0, 2, 0));
     Due.is("21 to the last week: 2, 1 and 3", inLast.brown(), 2);
     Due.is("22 to the last week: 2, 1 and 3", inLast.pale(), 1);
+    PivotStreet paleInLast = Tape.street(Texts.ring(3, 1) + Texts.place(1, 6, 0) + Texts.place(2, 5, 0));
+    Due.is("22 to the last week: 6, 11 and 5", paleInLast.pale(), 2);
     Due.is("21 there are none", BARE.brown(), NONE);
     Due.is("22 there are none", BARE.pale(), NONE);
     Due.is("21 no town", NO_TOWN.brown(), -2);
@@ -647,5 +650,38 @@ public final class YearEdgeTest {
     Due.each("46 no letters", none::wrong, -1, -2, -2);
     Due.is("45 without houses", BARE.rights(), 0);
     Due.is("45 no town", NO_TOWN.rights(), -2);
+  }
+
+  // A town of few WEEKS behind one of many: nothing is there behind its last WEEK.
+  private static void behindTheLastWeek() {
+    String[] longer = {Texts.standing(8, 20), Texts.ring(8, 20), Texts.backwards(8, 20), Texts.town(20, 0, 1, 0) + "house push 40 leans;".repeat(8)};
+    for (String text : longer) {
+      Due.is("21 9, 1 and 10", behind(text, Texts.ring(3, 1) + Texts.place(0, 9, 0) + Texts.place(2, 1, 0)).brown(), 2);
+      Due.is("22 6, 11 and 5", behind(text, Texts.ring(3, 1) + Texts.place(1, 6, 0) + Texts.place(2, 5, 0)).pale(), 2);
+      Due.is("24 not yet", behind(text, Texts.ring(3, 2)).home(), NONE);
+      PivotStreet x = behind(text, Texts.ring(3, 1) + Texts.place(2, 5, 0) + Texts.letter(0, 2, 2) + Texts.letter(0, 0, 2));
+      Due.each("37 best", x::best, 0, 0, 1, 0);
+      Due.each("38 sweet", x::sweet, 0, 0, 1, 1);
+      Due.each("39 last", x::last, 0, 0, 0, 0);
+      Due.each("25 sees", x::sees, 0, 3, 6, 5);
+      Due.each("26 when", p -> x.when(0, p), 0, 0, 1, NONE);
+      Due.each("28 often", p -> x.often(0, p), 0, 1, 1, 0);
+      Due.each("43 late", x::late, 0, NONE, NONE);
+      Due.each("46 wrong", x::wrong, 0, NONE, NONE);
+      Due.is("45 rights", x.rights(), 0);
+      Due.is("23 span: 0, 5 and 5", x.span(), 5);
+      Due.is("42 gold", x.gold(), 6);
+      Due.is("16 jerk", x.jerk(), 0);
+      Due.is("17 still", x.still(), 0);
+      Due.is("31 backs", x.backs(), 0);
+      Due.each("41 loose", x::loose, 0, 0, 1, 1);
+      Due.each("19 toil", x::toil, 0, 10, 0, 0);
+    }
+  }
+
+  private static PivotStreet behind(String longer, String text) {
+    PivotStreet x = Tape.street(longer);
+    Tape.town(x, text);
+    return x;
   }
 }
