@@ -58,6 +58,9 @@ public final class ChoiceEdgeTest {
     PivotStreet leaning = Tape.street(Texts.town(4, 0, 10, 0) + Texts.lean(10) + Texts.house(10, 10));
     Due.each("47 who leans stays in", n -> leaning.stay(0, n), -2, NONE, 2, 1, 0, 1, NONE);
     Due.each("48 who leans stays in", n -> leaning.stays(0, n), -2, NONE, 6, 2, 0, 1, NONE);
+    PivotStreet fewer = Tape.street(Texts.town(4, 0, 10, 0) + Texts.house(10, 10, 20));
+    Due.each("47 one in place of two ahead of it", n -> fewer.stay(0, n), 0, 3, 2, 1, 1, 0, NONE);
+    Due.each("48 one in place of two ahead of it", n -> fewer.stays(0, n), 0, 7, 5, 4, 1, 0, NONE);
     PivotStreet eight = Tape.street(Texts.town(1, 0, 1, 0) + "house push 40;".repeat(8));
     Due.is("47 nobody", eight.stay(0, 320), 0);
     Due.is("48 nobody", eight.stays(0, 320), 0);
@@ -139,6 +142,11 @@ public final class ChoiceEdgeTest {
     heaviest.swap(0, 1, 2);
     heaviest.rest(0, 2);
     Due.is("50 30", heaviest.fair(), 30);
+    // As heavy as 31 it would stand still till the exchange.
+    PivotStreet heavier = Tape.street(Texts.town(3, 1, 1, 0) + Texts.house(30, 0) + Texts.place(0, 10, 0));
+    heavier.swap(0, 1, 2);
+    heavier.rest(0, 2);
+    Due.is("50 31 is too heavy", heavier.fair(), 1);
     Due.is("50 without houses", BARE.fair(), 1);
     Due.is("50 no town", NO_TOWN.fair(), -2);
   }
@@ -152,6 +160,7 @@ public final class ChoiceEdgeTest {
     Due.is("51 none can be", Tape.street(forty(0, 9) + Texts.letter(0, 1, 0) + Texts.letter(0, 1, 2) + Texts.letter(0, 2, 1)).post(), 1);
     Due.is("51 30", Tape.street(Texts.town(1, 1, 1, 0) + Texts.house(29, 0) + Texts.letter(0, 0, 1)).post(), 30);
     Due.is("51 29", Tape.street(Texts.town(1, 1, 1, 0) + Texts.house(28, 0) + Texts.letter(0, 0, 1)).post(), 29);
+    Due.is("51 31 is too heavy", Tape.street(Texts.town(1, 1, 1, 0) + Texts.house(30, 0) + Texts.letter(0, 0, 1)).post(), 1);
     Due.is("51 without houses", BARE.post(), 1);
     Due.is("51 no town", NO_TOWN.post(), -2);
   }
@@ -207,6 +216,7 @@ public final class ChoiceEdgeTest {
     trade("as much is not more", market(3, 1, 5, 1, 9), NONE, 0);
     trade("as much is not more, the other one", market(3, 1, 5, 5, 20), NONE, 0);
     trade("what one gains another loses", Tape.street(Texts.standing(8, 4) + Texts.place(3, 20, 0)), NONE, 0);
+    trade("there is no fourth house", Tape.street(Texts.ring(3, 1) + Texts.place(1, 20, 0) + Texts.place(2, 5, 0)), NONE, 0);
     trade("one house", ring(1, 4), NONE, 0);
     trade("without houses", BARE, NONE, 0);
     Due.is("54 no town", NO_TOWN.trade(), -2);

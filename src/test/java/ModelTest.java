@@ -33,7 +33,8 @@ public final class ModelTest {
     for (int i = 0; i < methods.length; i++) {
       twins[i] = StreetModel.class.getMethod(methods[i].getName(), methods[i].getParameterTypes());
     }
-    for (int run = 0; run < RUNS && wrong == 0; run++) new ModelTest(run).run();
+    int runs = args.length > 0 ? Integer.parseInt(args[0]) : RUNS;
+    for (int run = 0; run < runs && wrong == 0; run++) new ModelTest(run).run();
     for (int i = 0; i < methods.length; i++) {
       if (answered[i] < 30) {
         System.out.println(methods[i].getName() + " was answered in full " + answered[i] + " times only");
