@@ -37,11 +37,8 @@ public final class PivotStreet {
     private static final int MOST_YEARS = 20;
     private static final int[] FACTORIALS = {1, 1, 2, 6, 24, 120, 720, 5040, 40320};
 
-    private final byte[] tape = new byte[MOST_BYTES];
-    private int tapeLength = 0;
+    private final Tape tape = new Tape();
     private Town now = new Town();
-    private Town draft = new Town();
-    private final Reader reader = new Reader(tape, draft);
     private final Town[] images = new Town[IMAGES];
     private final boolean[] imageKept = new boolean[IMAGES];
     private final Row[] slots = new Row[SLOTS];
@@ -65,54 +62,44 @@ public final class PivotStreet {
     // ---- the tape and the town that is read from it
 
     public int feed(int a, int b, int c, int d, int e) {
-        if (tapeLength > MOST_BYTES - FEED_BYTES) {
+        if (tape.size > MOST_BYTES - FEED_BYTES) {
             return NONE;
         }
-        feedNumber(a);
-        feedNumber(b);
-        feedNumber(c);
-        feedNumber(d);
-        feedNumber(e);
-        return tapeLength;
-    }
-
-    private void feedNumber(int number) {
-        for (int shift = 24; shift >= 0; shift -= 8) {
-            if (tapeLength < MOST_BYTES) {
-                tape[tapeLength] = (byte) (number >>> shift);
-                tapeLength++;
-            }
-        }
+        tape.add(a);
+        tape.add(b);
+        tape.add(c);
+        tape.add(d);
+        tape.add(e);
+        return tape.size;
     }
 
     public int end(int n) {
-        if (n < 0 || n > tapeLength) {
+        if (n < 0 || n > tape.size) {
             return NONE;
         }
-        tapeLength = n;
+        tape.size = n;
         return n;
     }
 
     public int town() {
-        draft.clear();
-        reader.read(tapeLength, draft);
+        tape.read();
         // The tape is taken by a faulty reading, too: what stays is the town and what was done in it.
-        tapeLength = 0;
-        if (reader.fault != 0) {
+        tape.size = 0;
+        if (tape.fault != 0) {
             return FAULTY;
         }
         Town before = now;
-        now = draft;
-        draft = before;
+        now = tape.draft;
+        tape.draft = before;
         renew();
         return now.lines;
     }
 
     public int fault(int what) {
         if (what == 0) {
-            return reader.fault;
+            return tape.fault;
         }
-        return what == 1 ? reader.faultPlace : NONE;
+        return what == 1 ? tape.faultPlace : NONE;
     }
 
     // ---- what was told
@@ -578,12 +565,12 @@ public final class PivotStreet {
         if (!hasTown()) {
             return NO_SUCH;
         }
-        int best = 1;
-        int least = Integer.MAX_VALUE;
+        int best = NONE;
+        int least = 0;
         for (int heavy = 1; heavy <= MOST_HEAVY; heavy++) {
             followHeavy(heavy);
             int spread = trial.spread(now);
-            if (spread < least) {
+            if (best == NONE || spread < least) {
                 least = spread;
                 best = heavy;
             }
@@ -595,12 +582,12 @@ public final class PivotStreet {
         if (!hasTown()) {
             return NO_SUCH;
         }
-        int best = 1;
-        int most = NONE;
+        int best = NONE;
+        int most = 0;
         for (int heavy = 1; heavy <= MOST_HEAVY; heavy++) {
             followHeavy(heavy);
             int reached = Integer.bitCount(trial.reachedBits(now));
-            if (reached > most) {
+            if (best == NONE || reached > most) {
                 most = reached;
                 best = heavy;
             }
@@ -616,11 +603,11 @@ public final class PivotStreet {
         if (!hasTown()) {
             return NO_SUCH;
         }
-        int best = 0;
-        int least = Integer.MAX_VALUE;
+        int best = NONE;
+        int least = 0;
         for (int law = 0; law < LAWS; law++) {
             int spread = spreadBy(law);
-            if (spread < least) {
+            if (best == NONE || spread < least) {
                 least = spread;
                 best = law;
             }
@@ -1050,7 +1037,7 @@ public final class PivotStreet {
             case 9:
                 return now.lines;
             case 10:
-                return tapeLength;
+                return tape.size;
             case 11:
                 return rowsThere();
             default:
@@ -1402,8 +1389,8 @@ public final class PivotStreet {
         }
     }
 
-    /** Reads a town from the tape, up to the first fault. */
-    private static final class Reader {
+    /** The bytes that were fed, and how a town is read from them, up to the first fault. */
+    private static final class Tape {
         private static final int AT_END = 0;
         private static final int WORD = 1;
         private static final int NUMBER = 2;
@@ -1411,35 +1398,39 @@ public final class PivotStreet {
         private static final int NO_TOKEN = 4;
         private static final int TOO_LARGE = 1000000;
 
-        private final byte[] bytes;
-        private int length;
-        private Town into;
+        int size = 0;
+        int fault = 0;
+        int faultPlace = NONE;
+        // What is read, right or not; the town in use is another one.
+        Town draft = new Town();
+        private final byte[] bytes = new byte[MOST_BYTES];
         private int kind;
         private int start;
         private int stop;
         private int number;
-        int fault = 0;
-        int faultPlace = NONE;
 
-        Reader(byte[] tapeBytes, Town town) {
-            bytes = tapeBytes;
-            into = town;
+        void add(int four) {
+            for (int shift = 24; shift >= 0; shift -= 8) {
+                if (size < MOST_BYTES) {
+                    bytes[size] = (byte) (four >>> shift);
+                    size++;
+                }
+            }
         }
 
-        void read(int tapeEnd, Town town) {
-            length = Math.min(tapeEnd, bytes.length);
-            into = town;
+        void read() {
+            draft.clear();
             fault = 0;
             faultPlace = NONE;
             stop = 0;
             step();
-            for (int i = 0; i <= length && kind != AT_END && fault == 0; i++) {
+            for (int i = 0; i <= size && kind != AT_END && fault == 0; i++) {
                 readLine();
             }
         }
 
         private void readLine() {
-            if (into.lines == 0) {
+            if (draft.lines == 0) {
                 readTown();
             } else if (isWord("house")) {
                 readHouse();
@@ -1454,63 +1445,63 @@ public final class PivotStreet {
             }
             takeSemicolon();
             if (fault == 0) {
-                into.lines++;
+                draft.lines++;
             }
         }
 
         private void readTown() {
             takeWord("town");
-            into.weeks = takeNumberOf("weeks", 1, MOST_WEEKS);
-            into.law = takeNumberOf("law", 0, LAWS - 1);
-            into.heavy = takeNumberOf("heavy", 1, MOST_HEAVY);
-            into.odds = takeNumberOf("odds", 0, MOST_ODDS);
+            draft.weeks = takeNumberOf("weeks", 1, MOST_WEEKS);
+            draft.law = takeNumberOf("law", 0, LAWS - 1);
+            draft.heavy = takeNumberOf("heavy", 1, MOST_HEAVY);
+            draft.odds = takeNumberOf("odds", 0, MOST_ODDS);
         }
 
         private void readHouse() {
-            startLine(into.houses, MOST_HOUSES);
+            startLine(draft.houses, MOST_HOUSES);
             int push = takeNumberOf("push", 0, MOST_PUSH);
             if (fault != 0) {
                 return;
             }
             if (isWord("leans")) {
-                into.leanBits |= 1 << into.houses;
+                draft.leanBits |= 1 << draft.houses;
                 step();
             }
-            into.push[into.houses] = push;
-            into.houses++;
+            draft.push[draft.houses] = push;
+            draft.houses++;
         }
 
         private void readPlace() {
-            startLine(into.placeLines, MOST_PLACE_LINES);
+            startLine(draft.placeLines, MOST_PLACE_LINES);
             int place = takeNumber(0, MOST_HOUSES - 1);
             int sunny = takeNumberOf("sun", 0, 20);
             int smelly = takeNumberOf("smell", 0, 20);
             if (fault == 0) {
-                into.sunOn[place] = sunny;
-                into.smellOf[place] = smelly;
-                into.placeLines++;
+                draft.sunOn[place] = sunny;
+                draft.smellOf[place] = smelly;
+                draft.placeLines++;
             }
         }
 
         private void readSnow() {
-            startLine(into.snowLines, MOST_SNOWS);
+            startLine(draft.snowLines, MOST_SNOWS);
             int week = takeNumberOf("at", 0, MOST_WEEKS - 1);
             if (fault == 0) {
-                into.snowBits |= 1 << week;
-                into.snowLines++;
+                draft.snowBits |= 1 << week;
+                draft.snowLines++;
             }
         }
 
         private void readLetter() {
-            startLine(into.letters, MOST_LETTERS);
-            int house = takeNumber(0, into.houses - 1);
+            startLine(draft.letters, MOST_LETTERS);
+            int house = takeNumber(0, draft.houses - 1);
             int place = takeNumberOf("to", 0, MOST_HOUSES - 1);
             int week = takeNumberOf("at", 0, MOST_WEEKS - 1);
             if (fault == 0) {
-                into.letterHouse[into.letters] = house;
-                into.letterPlace[into.letters] = place;
-                into.letterWeek[into.letters] = week;
-                into.letters++;
+                draft.letterHouse[draft.letters] = house;
+                draft.letterPlace[draft.letters] = place;
+                draft.letterWeek[draft.letters] = week;
+                draft.letters++;
             }
         }
 
@@ -1588,17 +1579,17 @@ public final class PivotStreet {
 
         private void step() {
             start = stop;
-            while (start < length && (bytes[start] == ' ' || bytes[start] == '\n')) {
+            while (start < size && (bytes[start] == ' ' || bytes[start] == '\n')) {
                 start++;
             }
             stop = start;
             number = 0;
-            kind = start < length ? kindOf(bytes[start]) : AT_END;
+            kind = start < size ? kindOf(bytes[start]) : AT_END;
             if (kind == SEMICOLON || kind == NO_TOKEN) {
                 stop++;
                 return;
             }
-            while (stop < length && kindOf(bytes[stop]) == kind) {
+            while (stop < size && kindOf(bytes[stop]) == kind) {
                 if (kind == NUMBER) {
                     number = Math.min(TOO_LARGE, number * 10 + bytes[stop] - '0');
                 }
