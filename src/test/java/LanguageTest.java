@@ -24,6 +24,7 @@ public final class LanguageTest {
     methods(code);
     depths(code);
     face();
+    room();
     for (int i = 0; i < source.length(); i++) {
       if (source.charAt(i) > 126) found.add("a sign above 126 at " + i);
     }
@@ -114,6 +115,33 @@ public final class LanguageTest {
       if (calls.containsKey(called)) deepest = Math.max(deepest, depth(called, calls, open + 1));
     }
     return deepest + 1;
+  }
+
+  /** One object's rows are counted: what all calls may use is bounded, and nothing is made after the constructor. */
+  private static void room() throws Exception {
+    Set<Object> objects = java.util.Collections.newSetFromMap(new java.util.IdentityHashMap<>());
+    int elements = held(new PivotStreet(), objects);
+    System.out.println("one object holds " + elements + " fields and elements in " + objects.size() + " objects and arrays");
+    if (elements > 10000) found.add("an object holds " + elements + " fields and elements");
+    if (objects.size() > 150) found.add("an object holds " + objects.size() + " objects and arrays");
+  }
+
+  private static int held(Object object, Set<Object> objects) throws Exception {
+    if (object == null || !objects.add(object)) return 0;
+    int count = 0;
+    if (object.getClass().isArray()) {
+      int length = java.lang.reflect.Array.getLength(object);
+      boolean ofNumbers = object.getClass().getComponentType().isPrimitive();
+      for (int i = 0; i < length && !ofNumbers; i++) count += held(java.lang.reflect.Array.get(object, i), objects);
+      return count + length;
+    }
+    for (java.lang.reflect.Field field : object.getClass().getDeclaredFields()) {
+      if (Modifier.isStatic(field.getModifiers())) continue;
+      field.setAccessible(true);
+      count++;
+      if (!field.getType().isPrimitive()) count += held(field.get(object), objects);
+    }
+    return count;
   }
 
   private static void face() {
