@@ -312,6 +312,11 @@ public final class ChoiceEdgeTest {
     seen("in place of those told", most, 1, 0, 255, NONE, 1);
     write(most, 0, 1, 0, -320);
     seen("as told", most, 1, 255, 0, NONE, 1);
+    PivotStreet either = Tape.street(Texts.town(1, 0, 1, 0) + Texts.house(5, 5, 7));
+    write(either, 0, 1, 0, 7);
+    seen("one of two, each in some set", either, 2, 0, 4, NONE, 2);
+    write(either, 0, 1, 0, -7);
+    seen("the third one with one of two", either, 2, 4, 0, NONE, 2);
   }
 
   private interface OfSlot {

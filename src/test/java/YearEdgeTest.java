@@ -396,6 +396,8 @@ public final class YearEdgeTest {
     Due.each("25 one week", ring(3, 1)::sees, -1, -2, 3, 6, 5, -2);
     Due.each("25 all of eight", ring(8, 7)::sees, 0, 255, 255, 255, 255, 255, 255, 255, 255, -2);
     Due.each("25 all but one", ring(8, 6)::sees, 0, 127, 254, 253, 251, 247, 239, 223, 191);
+    Due.each("25 each of two twice", ring(2, 3)::sees, 0, 3, 3, -2);
+    Due.each("25 each of three twice", ring(3, 5)::sees, 0, 7, 7, 7, -2);
     Due.each("25 its own alone", standing(3, 20)::sees, 0, 1, 2, 4);
     Due.outside("25 no such house", 0, 2, standing(3, 20)::sees, -2);
     Due.is("25 without houses", BARE.sees(0), -2);
