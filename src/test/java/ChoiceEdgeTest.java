@@ -312,6 +312,12 @@ public final class ChoiceEdgeTest {
     seen("in place of those told", most, 1, 0, 255, NONE, 1);
     write(most, 0, 1, 0, -320);
     seen("as told", most, 1, 255, 0, NONE, 1);
+    PivotStreet weak = Tape.street(Texts.town(1, 0, 10, 0) + Texts.house(1, 2, 4));
+    write(weak, 0, 0);
+    seen("forces that differ turn alike", weak, 8, 0, 0, NONE, 8);
+    PivotStreet half = Tape.street(Texts.town(2, 0, 2, 0) + Texts.house(1, 2));
+    write(half, 0, 0);
+    seen("two forces turn alike", half, 4, 0, 0, 0, 2);
     PivotStreet either = Tape.street(Texts.town(1, 0, 1, 0) + Texts.house(5, 5, 7));
     write(either, 0, 1, 0, 7);
     seen("one of two, each in some set", either, 2, 0, 4, NONE, 2);

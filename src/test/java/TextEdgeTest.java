@@ -88,6 +88,27 @@ public final class TextEdgeTest {
     Tape.put(x, "xyz");
     x.end(0);
     Due.is("3 another text in their place", Tape.town(x, FIRST), 1);
+    endWithinToken("town weeks 4 law 0 heavy 10 odds 10;", 34, 34);
+    endWithinToken(FIRST + "house push 5 leans;", FIRST.length() + 17, FIRST.length() + 13);
+    endWithinToken(FIRST + "house push 40;", FIRST.length() + 12, FIRST.length() + 12);
+    endWithinToken(FIRST + "house push 5;", FIRST.length() + 4, FIRST.length());
+    Tape.put(x, "town weeks 4 law 0 heavy 10 odds 10;");
+    x.end(34);
+    Due.is("3 what was cut off is no part of it", Tape.town(x, ";"), 1);
+    Due.is("3 a number that was cut", x.count(3), 1);
+    Tape.put(x, FIRST + "house push 5;");
+    x.end(FIRST.length() + 3);
+    Due.is("3 a word goes on", Tape.town(x, "se push 7;"), 2);
+    Due.is("3 a house that was cut", x.house(0, 0), 7);
+  }
+
+  private static void endWithinToken(String text, int size, int place) {
+    PivotStreet x = new PivotStreet();
+    Tape.put(x, text);
+    Due.is("3 end within a token", x.end(size), size);
+    Due.is("4 of " + text + " cut to " + size, x.town(), -4);
+    Due.is("5 of " + text + " cut to " + size, x.fault(0), 1);
+    Due.is("5 place, of " + text + " cut to " + size, x.fault(1), place);
   }
 
   // Promise 4: "how many LINES (0: there is none then)."

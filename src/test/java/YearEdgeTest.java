@@ -129,6 +129,8 @@ public final class YearEdgeTest {
       int week = w;
       Due.outside("11 no such place", 0, 2, p -> x.who(p, week), -2);
     }
+    Due.each("11 more places than weeks", p -> standing(8, 1).who(p, 1), 0, 0, 1, 2, 3, 4, 5, 6, 7, -2);
+    Due.each("11 more places than weeks, one on", p -> ring(8, 1).who(p, 1), 0, 7, 0, 1, 2, 3, 4, 5, 6, -2);
     Due.is("11 without houses", BARE.who(0, 0), -2);
     Due.is("11 without a town", NO_TOWN.who(0, 0), -2);
   }
@@ -232,6 +234,7 @@ public final class YearEdgeTest {
   private static void stands() {
     Due.each("15 on", ring(3, 4)::stands, -1, -2, 0, 1, 2, 0, 1, -2);
     Due.each("15 back", backwards(3, 4)::stands, -1, -2, 0, 2, 1, 0, 2, -2);
+    Due.each("15 on, of four: turns, not forces", ring(4, 4)::stands, 0, 0, 1, 2, 3, 0, -2);
     Due.each("15 without houses", BARE::stands, -1, -2, 0, 0, 0, 0, 0, -2);
     Due.each("15 one house", ring(1, 2)::stands, 0, 0, 0, 0, -2);
     Due.outside("15 no such week", 0, 4, ring(3, 4)::stands, -2);
@@ -275,6 +278,8 @@ public final class YearEdgeTest {
     x.rest(0, 3);
     Due.is("17 back is a turn, too", x.still(), 5);
     Due.is("17 a turn quite round is one", Tape.street(Texts.town(2, 0, 10, 0) + Texts.house(20, 0)).still(), 0);
+    Due.is("17 a force that is too small", Tape.street(Texts.town(3, 0, 10, 0) + Texts.house(9)).still(), 7);
+    Due.is("17 too small below 0", Tape.street(Texts.town(3, 0, 10, 0) + Texts.lean(9)).still(), 7);
     Due.is("17 without houses", BARE.still(), 15);
     Due.is("17 no town", NO_TOWN.still(), -2);
   }
@@ -504,6 +509,10 @@ public final class YearEdgeTest {
     PivotStreet later = standing(4, 4);
     later.swap(0, 1, 3);
     Due.is("32 by an exchange", later.beside(0, 2), 3);
+    PivotStreet farLater = standing(5, 20);
+    farLater.swap(0, 1, 10);
+    Due.is("32 in a week beyond the houses", farLater.beside(0, 2), 10);
+    Due.is("32 more houses than weeks", standing(8, 1).beside(0, 4), NONE);
     Due.is("32 without houses", BARE.beside(0, 1), -2);
     Due.is("32 no town", NO_TOWN.beside(0, 1), -2);
   }
@@ -569,6 +578,8 @@ public final class YearEdgeTest {
     Due.each("37 no sun", ring(3, 4)::best, -1, -2, 0, 0, 0, -2);
     Due.each("37 the last week", Tape.street(Texts.ring(3, 2) + Texts.place(2, 5, 0))::best, -1, -2, 2, 1, 0, -2);
     Due.each("37 the first of several", Tape.street(Texts.ring(3, 4) + Texts.place(1, 5, 0) + Texts.place(2, 5, 0))::best, -1, -2, 1, 0, 0, -2);
+    String suns = Texts.place(0, 3, 0) + Texts.place(1, 1, 0) + Texts.place(2, 4, 0) + Texts.place(3, 1, 0) + Texts.place(4, 5, 0);
+    Due.each("37 back from place to place", Tape.street(Texts.backwards(5, 4) + suns)::best, 0, 1, 2, 3, 4, 0, -2);
     Due.outside("37 no such house", 0, 2, ring(3, 4)::best, -2);
     Due.is("37 without houses", BARE.best(0), -2);
     Due.is("37 no town", NO_TOWN.best(0), -2);
@@ -579,6 +590,9 @@ public final class YearEdgeTest {
     PivotStreet x = Tape.street(Texts.standing(4, 4) + Texts.place(0, 5, 5) + Texts.place(1, 5, 4) + Texts.place(2, 4, 5));
     Due.each("38 as much is not more", x::sweet, -1, -2, 0, 5, 0, 0, -2);
     Due.each("38 round", Tape.street(Texts.ring(3, 4) + Texts.place(1, 1, 0))::sweet, -1, -2, 2, 2, 1, -2);
+    String smells = Texts.place(0, 5, 9) + Texts.place(1, 5, 1) + Texts.place(2, 5, 5);
+    PivotStreet round = Tape.street(Texts.town(4, 0, 30, 0) + Texts.house(40, 0, 0) + smells);
+    Due.each("38 by where it is, not by where it was", round::sweet, 0, 2, 2, 1, -2);
     Due.outside("38 no such house", 0, 3, x::sweet, -2);
     Due.is("38 without houses", BARE.sweet(0), -2);
     Due.is("38 no town", NO_TOWN.sweet(0), -2);
@@ -645,6 +659,8 @@ public final class YearEdgeTest {
     Due.is("45 week 19 of twenty", Tape.street(Texts.ring(8, 20) + Texts.letter(5, 0, 19) + Texts.letter(5, 1, 19)).rights(), 1);
     PivotStreet behind = Tape.street(Texts.standing(2, 1) + Texts.letter(1, 0, 2) + Texts.letter(0, 1, 2));
     Due.each("46 no such week", behind::wrong, 0, NONE, NONE, -2);
+    PivotStreet one = Tape.street(Texts.standing(8, 1) + Texts.letter(0, 7, 1));
+    Due.is("46 a house beyond the weeks and the letters", one.wrong(0), 7);
     PivotStreet none = standing(2, 2);
     Due.is("45 no letters", none.rights(), 0);
     Due.each("43 no letters", none::late, -1, -2, -2);
