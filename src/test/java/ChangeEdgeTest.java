@@ -185,10 +185,10 @@ public final class ChangeEdgeTest {
     Due.is("73 acts hold: at 0 it pushes in snow, too", all.drawn(0, 2), 255);
     all.rest(1, 0);
     Due.is("73 acts hold: it stays in at 0", all.drawn(0, 2), 0);
-    PivotStreet many = Tape.street(Texts.town(12, 0, 10, 0) + Texts.house(10, 0, 0) + Texts.letter(0, 1, 10) + Texts.letter(2, 2, 12));
-    Due.is("73 more weeks than houses", many.drawn(5, 2), 3);
-    Due.is("74 more weeks than houses", many.luck(5, 20, 0), 20);
-    Due.is("74 in the last of them", many.luck(5, 20, 1), 20);
+    String many = Texts.town(12, 0, 10, 0) + Texts.house(10, 0, 0) + Texts.letter(0, 1, 10) + Texts.letter(2, 2, 12);
+    Due.is("73 more weeks than houses", Tape.street(many).drawn(5, 2), 3);
+    Due.is("74 more weeks than houses", Tape.street(many).luck(5, 20, 0), 20);
+    Due.is("74 in the last of them", Tape.street(many).luck(5, 20, 1), 20);
   }
 
   // Promise 73: "a seed (0 .. 2,000,000,000)"; "-2: there are none such, no TOWN."
